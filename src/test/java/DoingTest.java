@@ -243,7 +243,9 @@ public final class DoingTest {
         for (int[] b : bad) {
             CHECK.refused(x, "bad", x.enact(b[0], b[1], b[2], b[3]), 5);
         }
-        for (int i = 3; i < 10; i++) {
+        CHECK.call(x, "all 0", x.enact(0, 0, 1, 0), 3, 0);
+        CHECK.call(x, "all 9", x.enact(9, 9, 4, 9), 4, 0);
+        for (int i = 5; i < 10; i++) {
             CHECK.call(x, "enact " + i, x.enact(5, 5, 4, 9), i, 0);
         }
         CHECK.refused(x, "an 11th", x.enact(5, 5, 0, 0), 7);
@@ -253,10 +255,12 @@ public final class DoingTest {
 
     private static void repeal() {
         CHECK.part("promise 27");
-        SumsNightwatch x = Check.withBook("wide 1;account a debit 1;law 1 becomes 2;law 1 becomes 3;law 3 becomes 4;");
+        SumsNightwatch x = Check.withBook("wide 1;account a debit 1;law 1 becomes 2;law 1 becomes 3;law 3 becomes 4 below 7;");
         CHECK.call(x, "repeal", x.repeal(0), 2, 0);
         CHECK.same("law 0", x.law(0, 1), 3);
+        CHECK.same("law 0 is always", x.law(0, 2) * 10 + x.law(0, 3), 0);
         CHECK.same("law 1", x.law(1, 0) * 10 + x.law(1, 1), 34);
+        CHECK.same("law 1, its place", x.law(1, 2) * 10 + x.law(1, 3), 47);
         CHECK.refused(x, "gone", x.repeal(2), 2);
         CHECK.refused(x, "-1", x.repeal(-1), 2);
         x.doze(1);

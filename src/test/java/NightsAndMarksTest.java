@@ -9,6 +9,7 @@ public final class NightsAndMarksTest {
         loops();
         atMost();
         missed();
+        toTheLastHour();
         live();
         mean();
         marks();
@@ -158,6 +159,17 @@ public final class NightsAndMarksTest {
         CHECK.same("digit", late.cell(0, 0), 2);
         lives(late, 0, 4, 4, 0, 0, 0, 0);
         CHECK.same("nothing tapped any more", late.many(8), 1);
+    }
+
+    private static void toTheLastHour() {
+        CHECK.part("promise 50: to hour 9,999");
+        SumsNightwatch x = with("", "doze 24;doze 1;");
+        for (int i = 0; i < 105; i++) {
+            x.doze(95);
+        }
+        CHECK.same("hour", x.many(5), 9975);
+        lives(x, 0, 2, 1, 24, 0, 0, 0);
+        CHECK.same("hour", x.many(5), 9999);
     }
 
     private static void live() {

@@ -356,7 +356,7 @@ public final class RandomRunsTest {
         // The plain model tries all five to the n-th rounds, so the long ones are rare.
         long n = oneIn(30) ? some(1, 5) : 1 + upTo(2);
         call("round", set, n);
-        call("roundAt", set, n, some(0, Math.max(0, (int) Math.min(n, 5) - 1)));
+        call("roundAt", set, n, some(0, (int) Math.max(1, Math.min(n, 5)) - 1));
     }
 
     private void pasts() throws Exception {

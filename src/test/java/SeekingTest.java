@@ -9,8 +9,10 @@ public final class SeekingTest {
         wrongBy();
         evenIn();
         stillIn();
+        edgeOf300();
         bears();
         round();
+        roundWithTaps();
         roundAt();
         far();
         past();
@@ -106,6 +108,42 @@ public final class SeekingTest {
         CHECK.call(none, "no accounts", none.stillIn(), 0, 0);
     }
 
+    /** BOOKS found by a search, in which something comes about very late, so that it can be asked in HOUR 300 and 301. */
+    private static void edgeOf300() {
+        CHECK.part("promises 31, 32, 33 in 300 hours");
+        SumsNightwatch wrong = Check.withBook("wide 5;account a debit 0 0 5 4 5;account b debit 1 5 0 3 0;"
+                + "account c debit 0 1 5 4 2;account d debit 0 4 2 2 5;account e debit 1 2 3 3 5;law 4 becomes 0 left 0;"
+                + "law 5 becomes 4 left 2;law 0 becomes 2;law 3 becomes 5 left 2;law 0 becomes 1 right 3;"
+                + "law 5 becomes 3 below 4;law 2 becomes 1;law 4 becomes 5 right 2;law 1 becomes 0 above 1;"
+                + "law 1 becomes 3 left 1;");
+        dozeTo(wrong, 299);
+        CHECK.refused(wrong, "wrong in 301", wrong.wrongBy(4), 8);
+        wrong.doze(1);
+        CHECK.call(wrong, "wrong in 300", wrong.wrongBy(4), 300, 0);
+        SumsNightwatch even = Check.withBook("wide 5;account a credit 1 1 2 1 4;account b debit 2 2 1 0 1;"
+                + "account c debit 2 1 2 0 3;account d credit 0 0 2 1 2;account e debit 1 4 2 0 0;law 1 becomes 0 below 0;"
+                + "law 0 becomes 1 left 0;law 1 becomes 4 above 2;law 4 becomes 3;law 1 becomes 2;law 2 becomes 4 right 3;"
+                + "law 2 becomes 4 below 1;law 3 becomes 0;law 2 becomes 1 above 1;law 0 becomes 1 right 3;");
+        dozeTo(even, 184);
+        CHECK.refused(even, "even in 301", even.evenIn(), 8);
+        even.doze(1);
+        CHECK.call(even, "even in 300", even.evenIn(), 300, 0);
+        SumsNightwatch still = Check.withBook("wide 5;account a debit 1 0 2 3 1;account b debit 1 1 3 0 2;"
+                + "account c debit 2 2 2 3 2;account d debit 0 0 1 0 1;account e debit 3 1 0 0 0;law 2 becomes 3 right 0;"
+                + "law 2 becomes 1 left 2;law 3 becomes 0 left 1;law 2 becomes 1 above 1;law 2 becomes 0 below 0;"
+                + "law 1 becomes 1 below 3;law 1 becomes 0;law 2 becomes 0 right 0;law 0 becomes 2;law 3 becomes 1 right 0;");
+        dozeTo(still, 2698);
+        CHECK.refused(still, "still in 301", still.stillIn(), 8);
+        still.doze(1);
+        CHECK.call(still, "still in 300", still.stillIn(), 300, 0);
+    }
+
+    private static void dozeTo(SumsNightwatch x, int hour) {
+        while (x.many(5) < hour) {
+            x.doze(Math.min(99, hour - x.many(5)));
+        }
+    }
+
     private static void bears() {
         CHECK.part("promise 34");
         SumsNightwatch x = Check.withBook(TraysAndTellingTest.BOOK);
@@ -153,6 +191,39 @@ public final class SeekingTest {
                 + "account d debit;account e debit;law 0 becomes 1;watch c 2;");
         CHECK.call(most, "25 cells", most.round((1 << 25) - 1, 1), 24, 0);
         CHECK.refused(most, "a 26th", most.round(1 << 25, 1), 5);
+    }
+
+    private static void roundWithTaps() {
+        CHECK.part("promises 35, 36: taps");
+        String line = "wide 3;account a debit 1 1 1;law 1 becomes 2;watch a 1;";
+        SumsNightwatch x = Check.withBook(line);
+        x.rule(3, 3);
+        ways(x, 2, 444, 3);
+        x.step(2);
+        x.mend(1);
+        x.mend(2);
+        // CELL 0 is kept for two HOURS more, and he may go to the middle at once.
+        CHECK.call(x, "0 and 1, 2 steps", x.round(3, 2), 0, 0);
+        ways(x, 3, 34, 2);
+        CHECK.call(x, "0 and 1, 3 steps", x.round(3, 3), 0, 0);
+        // To the middle, which is kept for three HOURS, and back ahead of the third one.
+        ways(x, 3, 324, 3);
+        x.rule(3, 2);
+        // To and fro, each is tapped again just ahead of the HOUR in which it would drift.
+        CHECK.call(x, "tap 2, 3 steps", x.round(3, 3), 0, 0);
+        x.rule(3, 1);
+        CHECK.call(x, "tap 1, 2 steps", x.round(3, 2), 0, 0);
+        CHECK.call(x, "tap 1, 3 steps", x.round(3, 3), 1, 0);
+        SumsNightwatch wide = Check.withBook("wide 5;tap 1;account a debit 1 1 1 1 1;account b debit 1 1 1 1 1;"
+                + "account c debit 1 1 1 1 1;account d debit 1 1 1 1 1;account e debit 1 1 1 1 1;law 1 becomes 2;");
+        CHECK.call(wide, "24 of 25 by staying", wide.round((1 << 25) - 1, 5), 24, 0);
+        wide.rule(3, 9);
+        CHECK.call(wide, "all but one", wide.round((1 << 25) - 1, 5), 24, 0);
+        ways(wide, (1 << 25) - 1, 44444, 5);
+        wide.enact(2, 1, 0, 0);
+        // Four HOURS bring each back to 1, and the one where he stays never left it.
+        CHECK.call(wide, "to and fro", wide.round((1 << 25) - 1, 4), 0, 0);
+        ways(wide, (1 << 25) - 1, 4444, 4);
     }
 
     private static void ways(SumsNightwatch x, int set, int due, int n) {
@@ -257,6 +328,11 @@ public final class SeekingTest {
         CHECK.call(y, "least", y.leastPast(1), 1, 0);
         CHECK.call(y, "the first has nothing above", y.past(0), 1, 0);
         CHECK.call(y, "itself", y.leastPast(0), 2, 0);
+        SumsNightwatch five = Check.withBook("wide 5;account a debit 1 2 3 4 5;law 6 becomes 5 left 4;law 1 becomes 0 right 9;");
+        CHECK.call(five, "12,345 and 12,346", five.past(0), 2, 0);
+        CHECK.call(five, "likely", five.likely(0, 12346), 1, 0);
+        CHECK.call(five, "not", five.likely(0, 12356), 0, 0);
+        CHECK.call(five, "least", five.leastPast(0), 12345, 0);
         SumsNightwatch z = Check.withBook("wide 3;account a debit 0 0 5;law 5 becomes 4;law 9 becomes 5;");
         CHECK.call(z, "009", z.leastPast(0), 9, 0);
         CHECK.call(z, "only", z.past(0), 1, 0);
@@ -281,6 +357,10 @@ public final class SeekingTest {
         x.scratch(3, 2);
         x.scratch(4, 0);
         CHECK.call(x, "these can't be", x.theft(), 4 | 8 | 16, 0);
+        x.scratch(0, 9);
+        x.scratch(1, 9);
+        x.scratch(5, 9);
+        CHECK.call(x, "none can", x.theft(), 63, 0);
         SumsNightwatch chain = Check.withBook("law 9 becomes 8;law 8 becomes 7;law 7 becomes 6;law 6 becomes 5;"
                 + "law 5 becomes 4;law 4 becomes 3;law 3 becomes 2;law 2 becomes 1;law 1 becomes 0;");
         CHECK.call(chain, "all, down", chain.may(9), 1023, 0);
@@ -314,6 +394,15 @@ public final class SeekingTest {
         x.vouch(1);
         x.vouch(4);
         CHECK.refused(x, "vouched", x.told(), 8);
+        x.scratch(0, 9);
+        CHECK.call(x, "the first", x.told(), 0, 0);
+        x.scratch(4, 9);
+        CHECK.refused(x, "two rows, two columns", x.told(), 8);
+        x.mend(4);
+        x.scratch(8, 0);
+        CHECK.refused(x, "the first and the last", x.told(), 8);
+        x.mend(0);
+        CHECK.call(x, "the last", x.told(), 8, 0);
     }
 
     private static void rubbed() {
@@ -340,6 +429,25 @@ public final class SeekingTest {
         CHECK.refused(no, "not by 2", no.rubbedSet(), 8);
         no.scratch(1, 0);
         CHECK.call(no, "0 and 2", no.rubbedSet(), 5, 0);
+        // 40,007 against 0: the 4 to 0 and the 7 to 0.
+        SumsNightwatch wide = Check.withBook("wide 5;account a debit 4 0 0 0 7;account b credit;");
+        CHECK.call(wide, "0 and 4", wide.rubbedSet(), 17, 0);
+        wide.scratch(4, 0);
+        CHECK.call(wide, "0", wide.rubbedSet(), 1, 0);
+        wide.scratch(0, 0);
+        wide.scratch(1, 3);
+        CHECK.call(wide, "1", wide.rubbedSet(), 2, 0);
+        // A CELL can get 9, but not 10.
+        SumsNightwatch nine = Check.withBook("wide 1;account a debit 0;account b credit 9;");
+        CHECK.call(nine, "9", nine.rubbedSet(), 1, 0);
+        SumsNightwatch ten = Check.withBook("wide 1;account a debit 0;account b credit 5;account c credit 5;");
+        CHECK.call(ten, "10", ten.rubbedSet(), 3, 0);
+        // By 1, too.
+        SumsNightwatch by = Check.withBook("wide 1;account a debit 4;account b credit 5;");
+        CHECK.call(by, "4 to 5", by.rubbedSet(), 1, 0);
+        // Of two CELLS both must change, up to 9: 0 0 against 18, and 19.
+        SumsNightwatch both = Check.withBook("wide 1;account a debit;account b debit;account c credit 9;account d credit 9;");
+        CHECK.call(both, "9 and 9", both.rubbedSet(), 3, 0);
         SumsNightwatch none = new SumsNightwatch();
         CHECK.call(none, "no accounts", none.rubbed(), 0, 0);
         CHECK.call(none, "no accounts", none.rubbedSet(), 0, 0);
@@ -360,6 +468,9 @@ public final class SeekingTest {
         CHECK.refused(x, "-1 turns", x.game(-1), 5);
         CHECK.refused(x, "move of none", x.moveOf(0), 5);
         CHECK.refused(x, "move of 3", x.moveOf(3), 5);
+        SumsNightwatch ones = Check.withBook("wide 4;account a debit 2 2 1 1;");
+        CHECK.call(ones, "1 is not nothing", ones.game(1), 1, 0);
+        CHECK.call(ones, "the nearest of them", ones.moveOf(1), 2, 0);
         SumsNightwatch near = Check.withBook("wide 2;account a debit 9 9;");
         CHECK.call(near, "too near", near.game(2), 0, 0);
         CHECK.refused(near, "from none", near.moveOf(2), 8);
@@ -416,6 +527,8 @@ public final class SeekingTest {
         x.book(0);
         CHECK.refused(x, "no cells", x.shame(), 8);
         CHECK.fraction(x, "as it was", 1, 3);
+        SumsNightwatch single = Check.withBook("wide 1;account a debit 1;");
+        CHECK.call(single, "one cell", single.shame(), true, 0);
         SumsNightwatch y = Check.withBook("wide 2;account a debit 1 1;law 1 becomes 2;");
         y.doze(1);
         y.shame();
