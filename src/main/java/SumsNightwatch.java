@@ -1406,20 +1406,15 @@ public final class SumsNightwatch {
     /** Reads a text as a BOOK. Its methods answer whether there was no FAULT. */
     private static final class BookReader {
         private final Tape tape;
-        private boolean wideTold;
-        private boolean tapTold;
-        private boolean oddsTold;
-        private boolean watchTold;
+        /** The set of those words that may be told once and were. */
+        private int told;
 
         BookReader(Tape from) {
             tape = from;
         }
 
         boolean fill(Book into, int n) {
-            wideTold = false;
-            tapTold = false;
-            oddsTold = false;
-            watchTold = false;
+            told = 0;
             into.empty();
             tape.open(n);
             for (int parts = 0; parts < Tape.MOST_BYTES && tape.kind != Tape.AT_END; parts++) {
@@ -1450,41 +1445,37 @@ public final class SumsNightwatch {
             }
         }
 
-        private boolean takeWide(Book into) {
-            if (wideTold || into.accounts > 0) {
+        private boolean takeWordOnce(int word) {
+            if ((told >> word & 1) != 0) {
                 return tape.refuseToken(FAULT_TOLD_ALREADY);
             }
-            tape.advance();
-            if (!tape.takeNumber(1, MOST_WIDE)) {
+            told |= 1 << word;
+            return tape.takeWord(word);
+        }
+
+        private boolean takeWide(Book into) {
+            if (into.accounts > 0) {
+                return tape.refuseToken(FAULT_TOLD_ALREADY);
+            }
+            if (!takeWordOnce(WORD_WIDE) || !tape.takeNumber(1, MOST_WIDE)) {
                 return false;
             }
-            wideTold = true;
             into.wide = tape.taken;
             return tape.takeEndOfPart();
         }
 
         private boolean takeTap(Book into) {
-            if (tapTold) {
-                return tape.refuseToken(FAULT_TOLD_ALREADY);
-            }
-            tape.advance();
-            if (!tape.takeNumber(1, MOST_TAP)) {
+            if (!takeWordOnce(WORD_TAP) || !tape.takeNumber(1, MOST_TAP)) {
                 return false;
             }
-            tapTold = true;
             into.tapHours = tape.taken;
             return tape.takeEndOfPart();
         }
 
         private boolean takeOdds(Book into) {
-            if (oddsTold) {
-                return tape.refuseToken(FAULT_TOLD_ALREADY);
-            }
-            tape.advance();
-            if (!tape.takeNumber(0, MOST_ODDS)) {
+            if (!takeWordOnce(WORD_ODDS) || !tape.takeNumber(0, MOST_ODDS)) {
                 return false;
             }
-            oddsTold = true;
             into.odds = tape.taken;
             return tape.takeEndOfPart();
         }
@@ -1556,18 +1547,13 @@ public final class SumsNightwatch {
         }
 
         private boolean takeWatch(Book into) {
-            if (watchTold) {
-                return tape.refuseToken(FAULT_TOLD_ALREADY);
-            }
-            tape.advance();
-            if (!tape.takeName(into)) {
+            if (!takeWordOnce(WORD_WATCH) || !tape.takeName(into)) {
                 return false;
             }
             int first = tape.taken;
             if (!tape.takeNumber(0, into.wide - 1)) {
                 return false;
             }
-            watchTold = true;
             into.stand = first + tape.taken;
             return tape.takeEndOfPart();
         }
@@ -2100,7 +2086,7 @@ public final class SumsNightwatch {
         }
 
         /** How much the thief gets in so many turns, it being his. */
-        static int loot(Book book, int turns, int stand, int gone) {
+        private static int loot(Book book, int turns, int stand, int gone) {
             if (turns <= 0 || turns > MOST_TURNS) {
                 return 0;
             }

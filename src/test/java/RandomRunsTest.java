@@ -39,7 +39,7 @@ public final class RandomRunsTest {
     }
 
     public static void main(String[] args) throws Exception {
-        int runs = args.length > 0 ? Integer.parseInt(args[0]) : 400;
+        int runs = args.length > 0 ? Integer.parseInt(args[0]) : 1000;
         int from = args.length > 1 ? Integer.parseInt(args[1]) : 0;
         Check check = new Check();
         Map<String, Integer> all = new HashMap<>();
