@@ -92,4 +92,33 @@ final class Check {
         book(x, text);
         return x;
     }
+
+    static SumsNightwatch withNights(String book, String nights) {
+        SumsNightwatch x = withBook(book);
+        nights(x, nights);
+        return x;
+    }
+
+    /** DIGITS of all CELLS, read as one number. */
+    static long digits(SumsNightwatch x) {
+        long all = 0;
+        for (int c = 0; c < x.many(6); c++) {
+            all = all * 10 + x.cell(c, 0);
+        }
+        return all;
+    }
+
+    static void dozeTo(SumsNightwatch x, int hour) {
+        for (int left = hour - x.many(5); left > 0; left -= 99) {
+            x.doze(Math.min(99, left));
+        }
+    }
+
+    /** What live() answers, and what lived() tells of it: MISSED, HOURS, STEPS, stolen, left. */
+    void lives(SumsNightwatch x, int seed, int done, int... told) {
+        call(x, "live", x.live(seed), done, 0);
+        for (int i = 0; i < told.length; i++) {
+            call(x, "lived " + i, x.lived(i), told[i], 0);
+        }
+    }
 }

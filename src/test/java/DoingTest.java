@@ -18,14 +18,6 @@ public final class DoingTest {
         CHECK.end("DoingTest");
     }
 
-    private static int digits(SumsNightwatch x) {
-        int all = 0;
-        for (int c = 0; c < x.many(6); c++) {
-            all = all * 10 + x.cell(c, 0);
-        }
-        return all;
-    }
-
     private static void step() {
         CHECK.part("promise 20");
         SumsNightwatch x = Check.withBook(TraysAndTellingTest.BOOK);
@@ -58,20 +50,20 @@ public final class DoingTest {
         CHECK.part("promise 20, taps");
         SumsNightwatch x = Check.withBook("wide 3;tap 3;account a debit 1 1 1;law 1 becomes 2;");
         x.step(4);
-        CHECK.same("tapped ahead of the drift", digits(x), 122);
+        CHECK.same("tapped ahead of the drift", Check.digits(x), 122);
         CHECK.same("an hour less", x.cell(0, 2), 2);
         x.step(3);
-        CHECK.same("still", digits(x), 122);
+        CHECK.same("still", Check.digits(x), 122);
         CHECK.same("set", x.many(8), 3);
         x.step(2);
         CHECK.same("tapped anew, not longer", x.cell(0, 2), 2);
         x.doze(1);
         CHECK.same("left", x.cell(0, 2) * 10 + x.cell(1, 2), 10);
         x.doze(1);
-        CHECK.same("still", digits(x), 122);
+        CHECK.same("still", Check.digits(x), 122);
         CHECK.same("none", x.many(8), 0);
         x.doze(1);
-        CHECK.same("drifted", digits(x), 222);
+        CHECK.same("drifted", Check.digits(x), 222);
         SumsNightwatch y = Check.withBook("wide 1;tap 1;account a debit 1;law 1 becomes 2;");
         y.step(4);
         CHECK.same("one hour", y.cell(0, 0) * 10 + y.cell(0, 2), 10);
@@ -90,16 +82,16 @@ public final class DoingTest {
         CHECK.part("drift");
         SumsNightwatch all = Check.withBook("wide 2;account a debit 1 2;law 1 becomes 2 right 2;law 2 becomes 1 left 1;");
         CHECK.same("all at once", all.doze(1), 2);
-        CHECK.same("all at once", digits(all), 21);
+        CHECK.same("all at once", Check.digits(all), 21);
         SumsNightwatch first = Check.withBook("wide 1;account a debit 1;law 1 becomes 3;law 1 becomes 4;");
         first.doze(1);
-        CHECK.same("the first law", digits(first), 3);
+        CHECK.same("the first law", Check.digits(first), 3);
         SumsNightwatch same = Check.withBook("wide 1;account a debit 1;law 1 becomes 1;law 1 becomes 4;");
         same.doze(9);
-        CHECK.same("the same digit", digits(same), 1);
+        CHECK.same("the same digit", Check.digits(same), 1);
         SumsNightwatch second = Check.withBook("wide 1;account a debit 1;law 1 becomes 3 left 0;law 1 becomes 4;");
         second.doze(1);
-        CHECK.same("nothing is left of it, not even 0", digits(second), 4);
+        CHECK.same("nothing is left of it, not even 0", Check.digits(second), 4);
         String rows = "wide 3;account a debit 0 5 0;account b debit 6 1 7;account c debit 0 8 0;";
         String[] laws = {"left 6", "right 7", "above 5", "below 8", "left 7", "right 6", "above 8", "below 5"};
         for (int i = 0; i < 8; i++) {
@@ -113,12 +105,12 @@ public final class DoingTest {
         for (int i = 0; i < 4; i++) {
             SumsNightwatch x = Check.withBook(edges + places[i]);
             x.doze(1);
-            CHECK.same(places[i] + " not around the edge", digits(x), due[i]);
+            CHECK.same(places[i] + " not around the edge", Check.digits(x), due[i]);
         }
         // A TAPPED neighbour is looked at as it is.
         SumsNightwatch beside = Check.withBook("wide 2;tap 9;account a debit 1 2;law 1 becomes 5;law 2 becomes 3 left 1;");
         beside.step(4);
-        CHECK.same("beside a tapped one", digits(beside), 13);
+        CHECK.same("beside a tapped one", Check.digits(beside), 13);
     }
 
     private static void doze() {
@@ -126,7 +118,7 @@ public final class DoingTest {
         SumsNightwatch x = Check.withBook(TraysAndTellingTest.BOOK);
         CHECK.call(x, "doze 1", x.doze(1), 3, 0);
         CHECK.call(x, "doze 2", x.doze(2), 4, 0);
-        CHECK.same("digits", digits(x), 118085250);
+        CHECK.same("digits", Check.digits(x), 118085250);
         CHECK.same("hour", x.many(5), 3);
         CHECK.same("nothing tapped", x.many(8), 0);
         CHECK.call(x, "doze 99", x.doze(99), 4, 0);
@@ -237,7 +229,7 @@ public final class DoingTest {
         CHECK.call(x, "beside is not looked at", x.enact(2, 4, 0, -5), 2, 0);
         CHECK.same("law", x.law(2, 0) * 1000 + x.law(2, 1) * 100 + x.law(2, 2) * 10 + x.law(2, 3), 2400);
         x.doze(1);
-        CHECK.same("they bear", digits(x), 34);
+        CHECK.same("they bear", Check.digits(x), 34);
         int[][] bad = {{-1, 0, 0, 0}, {10, 0, 0, 0}, {0, -1, 0, 0}, {0, 10, 0, 0}, {0, 0, -1, 0}, {0, 0, 5, 0},
             {0, 0, 1, -1}, {0, 0, 4, 10}};
         for (int[] b : bad) {
@@ -264,12 +256,12 @@ public final class DoingTest {
         CHECK.refused(x, "gone", x.repeal(2), 2);
         CHECK.refused(x, "-1", x.repeal(-1), 2);
         x.doze(1);
-        CHECK.same("the other one bears", digits(x), 3);
+        CHECK.same("the other one bears", Check.digits(x), 3);
         CHECK.call(x, "the last", x.repeal(1), 1, 0);
         CHECK.call(x, "the only", x.repeal(0), 0, 0);
         CHECK.refused(x, "none", x.repeal(0), 2);
         x.doze(9);
-        CHECK.same("no drift", digits(x), 3);
+        CHECK.same("no drift", Check.digits(x), 3);
         CHECK.call(x, "a new one", x.enact(3, 9, 0, 0), 0, 0);
     }
 

@@ -24,20 +24,12 @@ public final class NightsAndMarksTest {
         return x;
     }
 
-    /** What live() answers, and what lived() tells of it: MISSED, HOURS, STEPS, stolen, left. */
-    private static void lives(SumsNightwatch x, int seed, int done, int... told) {
-        CHECK.call(x, "live", x.live(seed), done, 0);
-        for (int i = 0; i < told.length; i++) {
-            CHECK.call(x, "lived " + i, x.lived(i), told[i], 0);
-        }
-    }
-
     private static void orders() {
         CHECK.part("promises 50, 51: orders");
         SumsNightwatch x = with(TraysAndTellingTest.BOOK,
                 "step left;doze 2;mend rent 1;steal wine 0;step up;step stay;steal cash 0;stop;doze 9;");
         // To CELL 4, which is kept for 2 HOURS, then becomes 8 in the third one and is mended to 9.
-        lives(x, 7, 8, 0, 5, 3, 3, 0);
+        CHECK.lives(x, 7, 8, 0, 5, 3, 3, 0);
         CHECK.same("hour", x.many(5), 5);
         CHECK.same("watch", x.watch(), 1);
         CHECK.same("stolen", x.many(9), 3);
@@ -46,7 +38,7 @@ public final class NightsAndMarksTest {
         CHECK.same("tapped", x.many(8), 2);
         SumsNightwatch ways = with("wide 3;account a debit;account b debit;account c debit;watch b 1;",
                 "step up;step left;step down;step right;step stay;");
-        lives(ways, 0, 5, 0, 5, 5, 0, 0);
+        CHECK.lives(ways, 0, 5, 0, 5, 5, 0, 0);
         CHECK.same("around", ways.watch(), 4);
         CHECK.same("again", ways.live(0), 5);
         CHECK.same("hour", ways.many(5), 10);
@@ -56,24 +48,24 @@ public final class NightsAndMarksTest {
         CHECK.part("promise 50: draws");
         // Seed 0: s is 10,853, by 8 1,356, by 16 12; then 11,404, 1,425, by 5 0.
         SumsNightwatch x = with(TraysAndTellingTest.BOOK, "any;");
-        lives(x, 0, 1, 0, 1, 1, 0, 0);
+        CHECK.lives(x, 0, 1, 0, 1, 1, 0, 0);
         CHECK.same("up", x.watch(), 2);
         x.rule(4, 13);
-        lives(x, 0, 1, 0, 1, 0, 0, 0);
+        CHECK.lives(x, 0, 1, 0, 1, 0, 0, 0);
         CHECK.same("dozes", x.watch(), 2);
         x.rule(4, 12);
-        lives(x, 0, 1, 1, 0, 0, 0, 0);
+        CHECK.lives(x, 0, 1, 1, 0, 0, 0, 0);
         CHECK.same("12 is not below 12; up is out of the book", x.many(5), 2);
         // Seed 9,999: 30,074, by 8 3,759, by 16 15; what comes next is reckoned below.
         x.step(1);
         x.rule(4, 15);
-        lives(x, 9999, 1, 0, 1, 1, 0, 0);
+        CHECK.lives(x, 9999, 1, 0, 1, 1, 0, 0);
         int s = (30074 * 2971 + 10853) % 65536;
         int[] to = {2, 8, 4, 6, 5};
         CHECK.same("the way", x.watch(), to[s / 8 % 5]);
         // With ODDS 16 all are dozes, one draw each; with 0 none is.
         SumsNightwatch all = with("odds 16;account a debit;account b debit;account c debit;", "loop 50;any;end;");
-        lives(all, 3, 51, 0, 50, 0, 0, 0);
+        CHECK.lives(all, 3, 51, 0, 50, 0, 0, 0);
         SumsNightwatch none = with("odds 0;wide 1;account a debit;", "loop 99;any;end;");
         int stays = 0;
         int drawn = 3;
@@ -81,7 +73,7 @@ public final class NightsAndMarksTest {
             drawn = (drawn * 2971 + 10853) % 65536;
             stays += i % 2 == 1 && drawn / 8 % 5 == 4 ? 1 : 0;
         }
-        lives(none, 3, 100, 99 - stays, stays, stays, 0, 0);
+        CHECK.lives(none, 3, 100, 99 - stays, stays, stays, 0, 0);
     }
 
     private static void tests() {
@@ -92,60 +84,60 @@ public final class NightsAndMarksTest {
         for (String test : yes) {
             SumsNightwatch x = with(book, "when " + test + ";doze 3;end;doze 1;");
             x.scratch(0, 9);
-            lives(x, 0, 3, 0, 4, 0, 0, 0);
+            CHECK.lives(x, 0, 3, 0, 4, 0, 0, 0);
         }
         for (String test : no) {
             SumsNightwatch x = with(book, "when " + test + ";doze 3;when even;doze 1;end;end;doze 1;");
             x.scratch(0, 9);
-            lives(x, 0, 2, 0, 1, 0, 0, 0);
+            CHECK.lives(x, 0, 2, 0, 1, 0, 0, 0);
         }
         SumsNightwatch even = with(book, "when even;stop;end;steal b 1;when even;stop;end;steal a 1;when even;stop;end;doze 1;");
         // 12 against 15, 12 against 10, 10 against 10.
-        lives(even, 0, 6, 0, 0, 0, 7, 0);
+        CHECK.lives(even, 0, 6, 0, 0, 0, 7, 0);
     }
 
     private static void loops() {
         CHECK.part("promise 50: loop");
         SumsNightwatch x = with("", "loop 3;loop 2;doze 1;end;doze 5;end;");
-        lives(x, 0, 13, 0, 21, 0, 0, 0);
+        CHECK.lives(x, 0, 13, 0, 21, 0, 0, 0);
         x = with("", "loop 99;end;loop 1;end;");
-        lives(x, 0, 2, 0, 0, 0, 0, 0);
+        CHECK.lives(x, 0, 2, 0, 0, 0, 0, 0);
         x = with("", "loop 99;loop 99;end;end;");
-        lives(x, 0, 100, 0, 0, 0, 0, 0);
+        CHECK.lives(x, 0, 100, 0, 0, 0, 0, 0);
         x = with("", "loop 4;when even;loop 2;doze 1;end;end;end;doze 1;");
-        lives(x, 0, 18, 0, 9, 0, 0, 0);
+        CHECK.lives(x, 0, 18, 0, 9, 0, 0, 0);
         x = with("", "loop 9;doze 1;stop;end;doze 1;");
-        lives(x, 0, 3, 0, 1, 0, 0, 0);
+        CHECK.lives(x, 0, 3, 0, 1, 0, 0, 0);
     }
 
     private static void atMost() {
         CHECK.part("promise 50: 300 orders");
         SumsNightwatch x = with("", "loop 99;doze 1;doze 1;doze 1;end;doze 1;doze 1;");
-        lives(x, 0, 300, 0, 299, 0, 0, 0);
+        CHECK.lives(x, 0, 300, 0, 299, 0, 0, 0);
         x = with("", "loop 99;doze 1;doze 1;doze 1;end;doze 1;doze 1;doze 1;");
-        lives(x, 0, 300, 0, 299, 0, 0, 1);
+        CHECK.lives(x, 0, 300, 0, 299, 0, 0, 1);
         x = with("", "loop 99;doze 1;doze 1;doze 1;end;doze 1;doze 1;loop 2;end;");
-        lives(x, 0, 300, 0, 299, 0, 0, 1);
+        CHECK.lives(x, 0, 300, 0, 299, 0, 0, 1);
         x = with("", "loop 99;doze 1;doze 1;doze 1;end;doze 1;doze 1;stop;");
-        lives(x, 0, 300, 0, 299, 0, 0, 1);
+        CHECK.lives(x, 0, 300, 0, 299, 0, 0, 1);
         x = with("", "loop 99;doze 1;doze 1;doze 1;end;doze 1;stop;doze 1;");
-        lives(x, 0, 300, 0, 298, 0, 0, 0);
+        CHECK.lives(x, 0, 300, 0, 298, 0, 0, 0);
         x = with("", "loop 1;loop 99;doze 1;doze 1;doze 1;end;doze 1;end;");
-        lives(x, 0, 300, 0, 298, 0, 0, 0);
+        CHECK.lives(x, 0, 300, 0, 298, 0, 0, 0);
         x = with("", "loop 2;loop 99;doze 1;doze 1;doze 1;end;doze 1;end;");
-        lives(x, 0, 300, 0, 298, 0, 0, 1);
+        CHECK.lives(x, 0, 300, 0, 298, 0, 0, 1);
         x = with("", "loop 99;loop 99;doze 24;end;end;");
-        lives(x, 0, 300, 0, 296 * 24, 0, 0, 1);
+        CHECK.lives(x, 0, 300, 0, 296 * 24, 0, 0, 1);
     }
 
     private static void missed() {
         CHECK.part("promises 50, 51: missed");
         SumsNightwatch x = with("wide 2;account a debit 1 0;",
                 "step up;step down;step left;mend a 0;steal a 1;steal a 0;steal a 0;mend a 0;mend a 0;");
-        lives(x, 0, 9, 7, 0, 0, 1, 0);
+        CHECK.lives(x, 0, 9, 7, 0, 0, 1, 0);
         CHECK.same("no hour went by", x.many(5), 0);
         SumsNightwatch none = with("odds 0;", "any;step stay;step up;doze 2;any;");
-        lives(none, 0, 5, 4, 2, 0, 0, 0);
+        CHECK.lives(none, 0, 5, 4, 2, 0, 0, 0);
         SumsNightwatch late = with("odds 16;account a debit 1;law 1 becomes 2;", "doze 24;any;step stay;doze 1;");
         for (int i = 0; i < 101; i++) {
             late.doze(98);
@@ -154,10 +146,10 @@ public final class NightsAndMarksTest {
         late.doze(99);
         late.scratch(0, 1);
         // HOUR 9,997: 24 are too many as a whole; any dozes, one STEP, then no more.
-        lives(late, 0, 4, 2, 2, 1, 0, 0);
+        CHECK.lives(late, 0, 4, 2, 2, 1, 0, 0);
         CHECK.same("hour", late.many(5), 9999);
         CHECK.same("digit", late.cell(0, 0), 2);
-        lives(late, 0, 4, 4, 0, 0, 0, 0);
+        CHECK.lives(late, 0, 4, 4, 0, 0, 0, 0);
         CHECK.same("nothing tapped any more", late.many(8), 1);
     }
 
@@ -168,7 +160,7 @@ public final class NightsAndMarksTest {
             x.doze(95);
         }
         CHECK.same("hour", x.many(5), 9975);
-        lives(x, 0, 2, 1, 24, 0, 0, 0);
+        CHECK.lives(x, 0, 2, 1, 24, 0, 0, 0);
         CHECK.same("hour", x.many(5), 9999);
     }
 
@@ -190,7 +182,7 @@ public final class NightsAndMarksTest {
         CHECK.refused(x, "no nights any more", x.live(1), 8);
         CHECK.call(x, "as it was", x.lived(1), 7, 0);
         x.nights(0);
-        lives(x, 0, 0, 0, 0, 0, 0, 0);
+        CHECK.lives(x, 0, 0, 0, 0, 0, 0, 0);
     }
 
     private static void mean() {
@@ -283,7 +275,7 @@ public final class NightsAndMarksTest {
         CHECK.fault(x, "fault", 1, 0);
         CHECK.fraction(x, "fraction", 7, 16);
         CHECK.same("lived of then", x.lived(2), 2);
-        lives(x, 0, 4, 0, 2, 2, 1, 0);
+        CHECK.lives(x, 0, 4, 0, 2, 2, 1, 0);
         CHECK.call(x, "its names", Check.nights(x, "mend wine 2;"), 1, 0);
         CHECK.refused(x, "no other names", Check.nights(x, "mend other 2;"), 10);
         SumsNightwatch bare = new SumsNightwatch();

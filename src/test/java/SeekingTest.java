@@ -9,7 +9,6 @@ public final class SeekingTest {
         wrongBy();
         evenIn();
         stillIn();
-        edgeOf300();
         bears();
         round();
         roundWithTaps();
@@ -106,42 +105,6 @@ public final class SeekingTest {
         CHECK.call(same, "to no other digit", same.stillIn(), 0, 0);
         SumsNightwatch none = new SumsNightwatch();
         CHECK.call(none, "no accounts", none.stillIn(), 0, 0);
-    }
-
-    /** BOOKS found by a search, in which something comes about very late, so that it can be asked in HOUR 300 and 301. */
-    private static void edgeOf300() {
-        CHECK.part("promises 31, 32, 33 in 300 hours");
-        SumsNightwatch wrong = Check.withBook("wide 5;account a debit 0 0 5 4 5;account b debit 1 5 0 3 0;"
-                + "account c debit 0 1 5 4 2;account d debit 0 4 2 2 5;account e debit 1 2 3 3 5;law 4 becomes 0 left 0;"
-                + "law 5 becomes 4 left 2;law 0 becomes 2;law 3 becomes 5 left 2;law 0 becomes 1 right 3;"
-                + "law 5 becomes 3 below 4;law 2 becomes 1;law 4 becomes 5 right 2;law 1 becomes 0 above 1;"
-                + "law 1 becomes 3 left 1;");
-        dozeTo(wrong, 299);
-        CHECK.refused(wrong, "wrong in 301", wrong.wrongBy(4), 8);
-        wrong.doze(1);
-        CHECK.call(wrong, "wrong in 300", wrong.wrongBy(4), 300, 0);
-        SumsNightwatch even = Check.withBook("wide 5;account a credit 1 1 2 1 4;account b debit 2 2 1 0 1;"
-                + "account c debit 2 1 2 0 3;account d credit 0 0 2 1 2;account e debit 1 4 2 0 0;law 1 becomes 0 below 0;"
-                + "law 0 becomes 1 left 0;law 1 becomes 4 above 2;law 4 becomes 3;law 1 becomes 2;law 2 becomes 4 right 3;"
-                + "law 2 becomes 4 below 1;law 3 becomes 0;law 2 becomes 1 above 1;law 0 becomes 1 right 3;");
-        dozeTo(even, 184);
-        CHECK.refused(even, "even in 301", even.evenIn(), 8);
-        even.doze(1);
-        CHECK.call(even, "even in 300", even.evenIn(), 300, 0);
-        SumsNightwatch still = Check.withBook("wide 5;account a debit 1 0 2 3 1;account b debit 1 1 3 0 2;"
-                + "account c debit 2 2 2 3 2;account d debit 0 0 1 0 1;account e debit 3 1 0 0 0;law 2 becomes 3 right 0;"
-                + "law 2 becomes 1 left 2;law 3 becomes 0 left 1;law 2 becomes 1 above 1;law 2 becomes 0 below 0;"
-                + "law 1 becomes 1 below 3;law 1 becomes 0;law 2 becomes 0 right 0;law 0 becomes 2;law 3 becomes 1 right 0;");
-        dozeTo(still, 2698);
-        CHECK.refused(still, "still in 301", still.stillIn(), 8);
-        still.doze(1);
-        CHECK.call(still, "still in 300", still.stillIn(), 300, 0);
-    }
-
-    private static void dozeTo(SumsNightwatch x, int hour) {
-        while (x.many(5) < hour) {
-            x.doze(Math.min(99, hour - x.many(5)));
-        }
     }
 
     private static void bears() {
