@@ -114,6 +114,28 @@ final class Check {
         }
     }
 
+    /** The first numbers of a TRAY, one DIGIT each, read as one number. */
+    static long row(SumsNightwatch x, int tray, int many) {
+        long all = 0;
+        for (int place = 0; place < many; place++) {
+            all = all * 10 + x.read(tray, place);
+        }
+        return all;
+    }
+
+    /** What many() tells, from what 0 on. */
+    void many(SumsNightwatch x, int... due) {
+        for (int what = 0; what < due.length; what++) {
+            call(x, "many " + what, x.many(what), due[what], 0);
+        }
+    }
+
+    void dozes(SumsNightwatch x, int n, int k, long top, long bottom) {
+        String what = "dozes " + n + " " + k;
+        call(x, what, x.dozes(n, k), true, 0);
+        fraction(x, what, top, bottom);
+    }
+
     /** What live() answers, and what lived() tells of it: MISSED, HOURS, STEPS, stolen, left. */
     void lives(SumsNightwatch x, int seed, int done, int... told) {
         call(x, "live", x.live(seed), done, 0);

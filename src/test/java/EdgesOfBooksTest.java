@@ -139,6 +139,10 @@ public final class EdgesOfBooksTest {
                 CHECK.fault(x, "byte " + b, begins ? 2 : 1, 0);
             }
         }
+        for (char other : new char[] {'`', '{', '@', 'A', 'Z', '[', '/', ':', '-'}) {
+            faulty(1, "account a^" + other + "b debit;");
+            faulty(1, "account a debit 1^" + other + "2;");
+        }
         for (String nine : new String[] {"9", "09", "009", "0009"}) {
             CHECK.same(nine, good(0, "tap " + nine + ";").many(3), 9);
         }
@@ -417,10 +421,7 @@ public final class EdgesOfBooksTest {
         // More than once: nothing of a BOOK that was there two ahead comes again, either.
         for (int i = 0; i < 3; i++) {
             CHECK.call(x, "a new one", Check.book(x, "wide 2;account c credit 8 9;account d credit 7;"), 2, 0);
-            int[] due = {2, 0, 2, 2, 2, 0, 4, 0, 0, 0, 0};
-            for (int what = 0; what < due.length; what++) {
-                CHECK.call(x, "many " + what, x.many(what), due[what], 0);
-            }
+            CHECK.many(x, 2, 0, 2, 2, 2, 0, 4, 0, 0, 0, 0);
             for (int c = 0; c < 4; c++) {
                 CHECK.call(x, "true " + c, x.cell(c, 1), x.cell(c, 0), 0);
                 CHECK.call(x, "tapped " + c, x.cell(c, 2), 0, 0);

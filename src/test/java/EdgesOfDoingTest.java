@@ -48,10 +48,7 @@ public final class EdgesOfDoingTest {
             CHECK.refused(x, "read", x.read(tray, 0), 3);
         }
         DOC.promise(1, "a BOOK of no ACCOUNTS, LAWS (WIDE 3, TAP 2, ODDS 2),");
-        int[] due = {0, 0, 3, 2, 2, 0, 0, 0, 0, 0, 1};
-        for (int what = 0; what < due.length; what++) {
-            CHECK.call(x, "many " + what, x.many(what), due[what], 0);
-        }
+        CHECK.many(x, 0, 0, 3, 2, 2, 0, 0, 0, 0, 0, 1);
         CHECK.refused(x, "no cell", x.cell(0, 0), 2);
         CHECK.refused(x, "no law", x.law(0, 0), 2);
         DOC.promise(1, "no NIGHTS, MARKS, an empty tape;");
@@ -161,14 +158,6 @@ public final class EdgesOfDoingTest {
         return x;
     }
 
-    private static long row(SumsNightwatch x, int tray, int many) {
-        long all = 0;
-        for (int place = 0; place < many; place++) {
-            all = all * 10 + x.read(tray, place);
-        }
-        return all;
-    }
-
     private static void pour() {
         DOC.promise(8, "So many numbers from place i on of a TRAY come to place j on of another one, or the same, as they were:");
         int[][] given = {{0, 2, 3}, {2, 0, 3}, {0, 1, 4}, {1, 0, 4}, {0, 0, 5}, {4, 0, 1}, {0, 4, 1}, {5, 0, 0}, {0, 5, 0}};
@@ -176,12 +165,12 @@ public final class EdgesOfDoingTest {
         for (int i = 0; i < given.length; i++) {
             SumsNightwatch x = fiveNumbers();
             CHECK.call(x, "to itself", x.pour(0, given[i][0], 0, given[i][1], given[i][2]), true, 0);
-            CHECK.same("to itself, " + i, row(x, 0, 5), due[i]);
+            CHECK.same("to itself, " + i, Check.row(x, 0, 5), due[i]);
         }
         SumsNightwatch x = fiveNumbers();
         CHECK.call(x, "all that fit", x.pour(0, 2, 1, 0, 3), true, 0);
-        CHECK.same("there", row(x, 1, 3), 345);
-        CHECK.same("still here", row(x, 0, 5), 12345);
+        CHECK.same("there", Check.row(x, 1, 3), 345);
+        CHECK.same("still here", Check.row(x, 0, 5), 12345);
         CHECK.call(x, "none", x.pour(0, 5, 1, 3, 0), true, 0);
         DOC.promise(8, "1, 3 (either), 11, 6, 4, asked in this order.");
         CHECK.refused(x, "1, 3, 6", x.pour(4, -1, 3, -1, -1), 1);
@@ -197,7 +186,7 @@ public final class EdgesOfDoingTest {
         CHECK.refused(x, "4, beyond what an int has", x.pour(0, 1, 1, 1, Integer.MAX_VALUE), 4);
         CHECK.refused(x, "4, from below", x.pour(0, -1, 1, 0, 1), 4);
         CHECK.refused(x, "4, from far below", x.pour(0, Integer.MIN_VALUE, 1, Integer.MIN_VALUE, 1), 4);
-        CHECK.same("nothing was poured", row(x, 1, 3) * 100000 + row(x, 0, 5), 34512345);
+        CHECK.same("nothing was poured", Check.row(x, 1, 3) * 100000 + Check.row(x, 0, 5), 34512345);
     }
 
     private static void feed() {
@@ -310,10 +299,7 @@ public final class EdgesOfDoingTest {
         x.step(4);
         x.step(2);
         x.steal(1);
-        int[] due = {2, 2, 2, 3, 5, 2, 4, 2, 12, 2, 0};
-        for (int what = 0; what < due.length; what++) {
-            CHECK.call(x, "many " + what, x.many(what), due[what], 0);
-        }
+        CHECK.many(x, 2, 2, 2, 3, 5, 2, 4, 2, 12, 2, 0);
         CHECK.refused(x, "what 11", x.many(11), 5);
         CHECK.refused(x, "what -1", x.many(-1), 5);
         SumsNightwatch most = Check.withBook("wide 5;account a debit 9 9 9 9 9;account b debit 9 9 9 9 9;"
@@ -364,6 +350,11 @@ public final class EdgesOfDoingTest {
                 CHECK.call(x, "account " + a + " " + what, x.account(a, what), due[a][what], 0);
             }
         }
+        SumsNightwatch one = Check.withBook("wide 5;account a credit 1 2 3 4 5;");
+        CHECK.call(one, "five digits", one.account(0, 3), 15, 0);
+        SumsNightwatch five = Check.withBook("wide 1;account a debit 1;account b debit 2;account c debit 3;account d debit 4;"
+                + "account e debit 9;");
+        CHECK.call(five, "one digit of the fifth", five.account(4, 3), 9, 0);
         CHECK.refused(x, "behind the last", x.account(2, 0), 2);
         CHECK.refused(x, "-1", x.account(-1, 4), 2);
         CHECK.refused(x, "what 4", x.account(1, 4), 5);
@@ -406,13 +397,13 @@ public final class EdgesOfDoingTest {
             y.tray(sort, sort, 5);
             y.write(sort, 4, 6);
             CHECK.call(y, "sort " + sort, y.copyDigits(sort), 4, 0);
-            CHECK.same("those behind stay", row(y, sort, 5), 12796);
+            CHECK.same("those behind stay", Check.row(y, sort, 5), 12796);
         }
         y.tray(0, 0, 4);
         CHECK.call(y, "just enough", y.copyDigits(0), 4, 0);
         y.tray(0, 0, 3);
         CHECK.refused(y, "one too few", y.copyDigits(0), 4);
-        CHECK.same("none came", row(y, 0, 3), 0);
+        CHECK.same("none came", Check.row(y, 0, 3), 0);
         y.tray(0, 0, 0);
         CHECK.refused(y, "of none", y.copyDigits(0), 4);
         CHECK.refused(y, "no tray", y.copyDigits(4), 1);

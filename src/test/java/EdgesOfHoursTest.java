@@ -349,6 +349,16 @@ public final class EdgesOfHoursTest {
             SumsNightwatch other = Check.withBook("wide 2;account a debit " + (d + 1) % 10 + " 0;law 1 becomes 0 left " + d + ";");
             CHECK.call(other, "another to the left", other.past(0), 1, 0);
         }
+        // 5 or 1, then 9 and 0 or 1, or 3 and 0: behind a 3 a 1 becomes 5.
+        SumsNightwatch among = Check.withBook("wide 3;account a debit 5 9 0;law 3 becomes 9;law 1 becomes 0 left 9;"
+                + "law 1 becomes 5;");
+        CHECK.call(among, "590, 591, 530, 190, 191, 130", among.past(0), 6, 0);
+        CHECK.call(among, "the least of them", among.leastPast(0), 130, 0);
+        for (int row : new int[] {0, 1, 10, 112, 211, 998, 11223, 12345, 33221, 98789}) {
+            SumsNightwatch own = Check.withBook("wide 5;account a debit " + String.format("%05d", row).replaceAll(".", "$0 ") + ";");
+            CHECK.call(own, "without laws itself alone", own.past(0), 1, 0);
+            CHECK.call(own, "itself", own.leastPast(0), row, 0);
+        }
     }
 
     private static void likely() {
@@ -362,6 +372,17 @@ public final class EdgesOfHoursTest {
             CHECK.call(x, "likely " + sum, x.likely(0, sum), 0, 0);
         }
         CHECK.call(x, "no others", x.past(0), rows.length, 0);
+        // By what stands there and above it now, be it TRUE or not.
+        SumsNightwatch now = Check.withBook("wide 3;account a debit 1 1 1;account b debit 1 1 1;law 5 becomes 0 above 2;");
+        CHECK.call(now, "as it is told", now.likely(1, 111), 1, 0);
+        now.scratch(1, 2);
+        now.scratch(4, 0);
+        CHECK.call(now, "not any more", now.likely(1, 111), 0, 0);
+        CHECK.call(now, "5 behind 2", now.likely(1, 151), 1, 0);
+        CHECK.call(now, "itself", now.likely(1, 101), 1, 0);
+        CHECK.call(now, "no 2 is above", now.likely(1, 501), 0, 0);
+        now.step(4);
+        CHECK.call(now, "a tap does not matter", now.likely(1, 151), 1, 0);
         int nines = 0;
         for (int wide = 1; wide <= 5; wide++) {
             nines = nines * 10 + 9;
@@ -442,6 +463,15 @@ public final class EdgesOfHoursTest {
         x.mend(2);
         x.scratch(1, 6);
         CHECK.refused(x, "one account, two places", x.told(), 8);
+        for (String text : new String[] {"wide 4;account a debit;account b debit;", "wide 2;account a debit;account b debit;"
+                + "account c debit;account d debit;"}) {
+            SumsNightwatch y = Check.withBook(text);
+            for (int c = 0; c < 8; c++) {
+                y.scratch(c, 1);
+                CHECK.call(y, "one of 8 cells", y.told(), c, 0);
+                y.mend(c);
+            }
+        }
         SumsNightwatch row = Check.withBook("wide 3;account a debit 5 5 5;");
         row.scratch(0, 6);
         row.scratch(1, 4);
@@ -521,6 +551,16 @@ public final class EdgesOfHoursTest {
             SumsNightwatch x = Check.withBook("wide 3;" + ends + "watch " + corners[i] + ";");
             CHECK.call(x, "the one or the other", x.game(2), 5, 0);
         }
+        SumsNightwatch now = Check.withBook("wide 4;account a debit 0 0 7 0;");
+        now.scratch(2, 3);
+        CHECK.call(now, "what stands there now, be it TRUE or not", now.game(1), 3, 0);
+        now.scratch(3, 4);
+        CHECK.call(now, "4", now.game(1), 4, 0);
+        CHECK.call(now, "4", now.moveOf(1), 3, 0);
+        now.steal(3);
+        now.steal(2);
+        CHECK.call(now, "nothing stands there now", now.game(1), 0, 0);
+        CHECK.refused(now, "nothing stands there now", now.moveOf(1), 8);
         SumsNightwatch first = Check.withBook("wide 3;account a debit 5 6 7;watch a 2;");
         CHECK.call(first, "the first cell", first.game(1), 5, 0);
         CHECK.call(first, "the first cell", first.moveOf(1), 0, 0);
@@ -556,32 +596,27 @@ public final class EdgesOfHoursTest {
         CHECK.refused(empty, "from 0 he can't", empty.moveOf(2), 8);
     }
 
-    private static void odds(SumsNightwatch x, int n, int k, long top, long bottom) {
-        CHECK.call(x, "dozes " + n + " " + k, x.dozes(n, k), true, 0);
-        CHECK.fraction(x, "dozes " + n + " " + k, top, bottom);
-    }
-
     private static void dozes() {
         DOC.terms(3, "48", "DOZES: the odds that he dozes k or more of n HOURS, each by ODDS sixteenths.");
         SumsNightwatch x = Check.withBook("odds 1;");
-        odds(x, 1, 0, 1, 1);
-        odds(x, 1, 1, 1, 16);
-        odds(x, 1, 2, 0, 1);
-        odds(x, 2, 1, 31, 256);
-        odds(x, 2, 2, 1, 256);
-        odds(x, 12, 12, 1, 1L << 48);
+        CHECK.dozes(x, 1, 0, 1, 1);
+        CHECK.dozes(x, 1, 1, 1, 16);
+        CHECK.dozes(x, 1, 2, 0, 1);
+        CHECK.dozes(x, 2, 1, 31, 256);
+        CHECK.dozes(x, 2, 2, 1, 256);
+        CHECK.dozes(x, 12, 12, 1, 1L << 48);
         // 15 to the 12th is 129,746,337,890,625.
-        odds(x, 12, 1, 281474976710656L - 129746337890625L, 281474976710656L);
+        CHECK.dozes(x, 12, 1, 281474976710656L - 129746337890625L, 281474976710656L);
         x.rule(4, 15);
-        odds(x, 12, 12, 129746337890625L, 281474976710656L);
+        CHECK.dozes(x, 12, 12, 129746337890625L, 281474976710656L);
         x.rule(4, 0);
-        odds(x, 12, 0, 1, 1);
-        odds(x, 12, 1, 0, 1);
+        CHECK.dozes(x, 12, 0, 1, 1);
+        CHECK.dozes(x, 12, 1, 0, 1);
         x.rule(4, 16);
-        odds(x, 12, 12, 1, 1);
-        odds(x, 0, 0, 1, 1);
-        odds(x, 0, 1, 0, 1);
+        CHECK.dozes(x, 12, 12, 1, 1);
+        CHECK.dozes(x, 0, 0, 1, 1);
+        CHECK.dozes(x, 0, 1, 0, 1);
         x.rule(4, 8);
-        odds(x, 3, 2, 1, 2);
+        CHECK.dozes(x, 3, 2, 1, 2);
     }
 }

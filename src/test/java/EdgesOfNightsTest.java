@@ -79,6 +79,18 @@ public final class EdgesOfNightsTest {
             faulty(2, order + "^;");
         }
         good(6, "when even;any;any;when even;end;end;loop 1;any;end;");
+        for (String word : new String[] {"wide", "tap", "odds", "account", "debit", "credit", "law", "becomes", "left", "right",
+            "above", "below", "watch", "up", "down", "stay", "wrong", "digit", "even", "end", "a", "b"}) {
+            faulty(2, "^" + word + ";");
+        }
+        for (String word : new String[] {"watch", "step", "up", "doze", "any", "when", "loop", "end", "stop", "a"}) {
+            faulty(2, "when ^" + word + ";end;");
+            faulty(2, "when ^" + word + " = 0;end;");
+        }
+        for (String word : new String[] {"above", "below", "watch", "step", "doze", "a"}) {
+            faulty(2, "step ^" + word + ";");
+        }
+        ways();
         faulty(2, "when wrong < ^= 1;end;");
         faulty(2, "when wrong ^; 1;end;");
         faulty(2, "when ^< 1;end;");
@@ -86,6 +98,17 @@ public final class EdgesOfNightsTest {
         faulty(2, "^even;");
         faulty(2, "^a 0;");
         faulty(2, "^account c debit;");
+    }
+
+    private static void ways() {
+        String[] ways = {"up", "down", "left", "right", "stay"};
+        int[] to = {1, 7, 3, 5, 4};
+        for (int way = 0; way < 5; way++) {
+            SumsNightwatch x = Check.withNights("wide 3;account a debit;account b debit;account c debit;watch b 1;",
+                    "step " + ways[way] + ";");
+            CHECK.lives(x, 0, 1, 0, 1, 1, 0, 0);
+            CHECK.same(ways[way], x.watch(), to[way]);
+        }
     }
 
     private static void faultsOneAndTwo() {
@@ -136,7 +159,7 @@ public final class EdgesOfNightsTest {
         good(30, "loop 1;end;".repeat(20) + "any;".repeat(10));
         good(30, "loop 1;loop 1;loop 1;end;end;end;" + "any;".repeat(27));
         // As many ORDERS and ends as 300 bytes can hold.
-        CHECK.lives(good(30, "loop1;end;".repeat(30)), 0, 30, 0, 0, 0, 0, 0);
+        CHECK.lives(good(30, "loop1;end;".repeat(28) + "loop2;loop1;end;end;"), 0, 31, 0, 0, 0, 0, 0);
         faulty(6, "loop 1;".repeat(3) + "end;".repeat(3) + "any;".repeat(27) + "^any;");
         good(30, "any;".repeat(29) + "loop 1;end;");
         faulty(6, "any;".repeat(30) + "^loop 1;end;");
@@ -174,11 +197,26 @@ public final class EdgesOfNightsTest {
                 + "when digit a 0 < 0;doze 2;end;when digit b 0 > 8;doze 4;end;when digit b 0 > 9;doze 8;end;"
                 + "when digit b 0 = 9;doze 16;end;when wrong < 0;doze 24;end;when wrong = 0;doze 20;end;");
         CHECK.lives(tests, 0, 11, 0, 1 + 4 + 16 + 20);
+        compares();
         // By 1 too few, even, by 1 too many.
         SumsNightwatch even = Check.withNights("wide 1;account a debit 4;account b credit 5;", "when even;doze 1;end;");
         for (int digit = 4; digit <= 6; digit++) {
             even.scratch(0, digit);
             CHECK.lives(even, 0, digit == 5 ? 2 : 1, 0, digit == 5 ? 1 : 0);
+        }
+    }
+
+    /** Two CELLS are WRONG, and a DIGIT is 5 now: below that, just that, above it. */
+    private static void compares() {
+        String[] signs = {"<", "=", ">"};
+        for (int by = -1; by <= 1; by++) {
+            for (int sign = -1; sign <= 1; sign++) {
+                SumsNightwatch x = Check.withNights("wide 2;account a debit 1 2;account b debit 3 4;", "when wrong "
+                        + signs[sign + 1] + (2 - by) + ";doze 1;end;when digit b 1 " + signs[sign + 1] + (5 - by) + ";doze 2;end;");
+                x.scratch(3, 5);
+                x.scratch(0, 0);
+                CHECK.lives(x, 0, by == sign ? 4 : 2, 0, by == sign ? 3 : 0);
+            }
         }
     }
 
@@ -223,6 +261,11 @@ public final class EdgesOfNightsTest {
         mend.scratch(0, 9);
         CHECK.lives(mend, 0, 1, 0, 0, 0, 0, 0);
         CHECK.same("mended", mend.cell(0, 0), 1);
+        SumsNightwatch last = Check.withNights(BOOK, "mend b 1;steal b 0;");
+        last.scratch(0, 9);
+        last.scratch(3, 9);
+        CHECK.lives(last, 0, 2, 0, 0, 0, 3, 0);
+        CHECK.same("the last mended, that ahead of it stolen", Check.digits(last), 9204);
         SumsNightwatch steal = Check.withNights("wide 1;account a debit 1;", "steal a 0;steal a 0;");
         CHECK.lives(steal, 0, 2, 1, 0, 0, 1, 0);
         CHECK.lives(steal, 0, 2, 2, 0, 0, 0, 0);
@@ -261,6 +304,12 @@ public final class EdgesOfNightsTest {
         faulty(4, "loop ^0;end;");
         faulty(4, "loop ^100;end;");
         CHECK.lives(good(1, "loop 99;end;"), 0, 1, 0, 0);
+        CHECK.lives(good(3, "loop 2;stop;end;doze 1;"), 0, 2, 0, 0);
+        // What was left of a loop by a stop is not left in other NIGHTS.
+        SumsNightwatch other = good(2, "loop 9;stop;end;");
+        CHECK.lives(other, 0, 2, 0, 0);
+        Check.nights(other, "when wrong = 0;doze 1;end;");
+        CHECK.lives(other, 0, 2, 0, 1);
         // The inner one begins anew each time.
         CHECK.lives(good(4, "loop 3;loop 4;loop 5;doze 1;end;end;end;"), 0, 1 + 3 + 12 + 60, 0, 60);
     }
@@ -293,10 +342,7 @@ public final class EdgesOfNightsTest {
         CHECK.refused(x, "10,000", x.live(10000), 5);
         CHECK.same("nothing was lived", x.many(5), 0);
         CHECK.call(x, "0", x.live(0), 3, 0);
-        int[] due = {1, 1, 2, 2, 2, 2, 2, 2, 0, 5, 0};
-        for (int what = 0; what < due.length; what++) {
-            CHECK.same("many " + what, x.many(what), due[what]);
-        }
+        CHECK.many(x, 1, 1, 2, 2, 2, 2, 2, 2, 0, 5, 0);
         CHECK.same("watch, digits", x.watch() * 100 + Check.digits(x), 120);
         CHECK.call(x, "9,999", x.live(9999), 3, 0);
         CHECK.same("on from there", x.many(5), 3);
@@ -373,10 +419,7 @@ public final class EdgesOfNightsTest {
         CHECK.same("its stolen, laws, tap, odds", x.many(9) * 1000 + x.many(1) * 100 + x.many(3) * 10 + x.many(4), 4299);
         CHECK.lives(x, 0, 2, 0, 18);
         CHECK.call(x, "to the first", x.back(), 0, 0);
-        int[] due = {2, 2, 2, 4, 7, 1, 4, 2, 4, 2, 0};
-        for (int what = 0; what < due.length; what++) {
-            CHECK.same("many " + what, x.many(what), due[what]);
-        }
+        CHECK.many(x, 2, 2, 2, 4, 7, 1, 4, 2, 4, 2, 0);
         CHECK.same("digits", Check.digits(x), 2039);
         CHECK.same("true", x.account(0, 2) * 100 + x.account(1, 2), 1239);
         CHECK.same("watch, its tap", x.watch() * 10 + x.cell(2, 2), 23);

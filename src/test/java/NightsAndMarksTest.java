@@ -260,10 +260,7 @@ public final class NightsAndMarksTest {
         Check.nights(x, "doze 24;doze 24;");
         Check.book(x, "!");
         CHECK.call(x, "back", x.back(), 0, 0);
-        int[] due = {3, 4, 3, 2, 4, 1, 9, 4, 32, 5, 0};
-        for (int i = 0; i < due.length; i++) {
-            CHECK.same("many " + i, x.many(i), due[i]);
-        }
+        CHECK.many(x, 3, 4, 3, 2, 4, 1, 9, 4, 32, 5, 0);
         CHECK.same("watch", x.watch(), 5);
         CHECK.same("true", x.cell(0, 1), 6);
         CHECK.same("digit", x.cell(5, 0), 0);

@@ -448,32 +448,27 @@ public final class SeekingTest {
         CHECK.refused(none, "no accounts, 3 turns", none.game(3), 5);
     }
 
-    private static void odds(SumsNightwatch x, int n, int k, long top, long bottom) {
-        CHECK.call(x, "dozes " + n + " " + k, x.dozes(n, k), true, 0);
-        CHECK.fraction(x, "dozes " + n + " " + k, top, bottom);
-    }
-
     private static void dozes() {
         CHECK.part("promise 48");
         SumsNightwatch x = new SumsNightwatch();
-        odds(x, 0, 0, 1, 1);
-        odds(x, 0, 1, 0, 1);
-        odds(x, 1, 1, 1, 8);
-        odds(x, 2, 1, 15, 64);
-        odds(x, 2, 2, 1, 64);
-        odds(x, 2, 3, 0, 1);
-        odds(x, 12, 0, 1, 1);
+        CHECK.dozes(x, 0, 0, 1, 1);
+        CHECK.dozes(x, 0, 1, 0, 1);
+        CHECK.dozes(x, 1, 1, 1, 8);
+        CHECK.dozes(x, 2, 1, 15, 64);
+        CHECK.dozes(x, 2, 2, 1, 64);
+        CHECK.dozes(x, 2, 3, 0, 1);
+        CHECK.dozes(x, 12, 0, 1, 1);
         x.rule(4, 1);
-        odds(x, 12, 12, 1, 1L << 48);
-        odds(x, 12, 1, (1L << 48) - 129746337890625L, 1L << 48);
+        CHECK.dozes(x, 12, 12, 1, 1L << 48);
+        CHECK.dozes(x, 12, 1, (1L << 48) - 129746337890625L, 1L << 48);
         x.rule(4, 8);
-        odds(x, 4, 2, 11, 16);
+        CHECK.dozes(x, 4, 2, 11, 16);
         x.rule(4, 0);
-        odds(x, 12, 1, 0, 1);
-        odds(x, 12, 0, 1, 1);
+        CHECK.dozes(x, 12, 1, 0, 1);
+        CHECK.dozes(x, 12, 0, 1, 1);
         x.rule(4, 16);
-        odds(x, 12, 12, 1, 1);
-        odds(x, 11, 12, 0, 1);
+        CHECK.dozes(x, 12, 12, 1, 1);
+        CHECK.dozes(x, 11, 12, 0, 1);
         CHECK.refused(x, "n 13", x.dozes(13, 0), 5);
         CHECK.refused(x, "n -1", x.dozes(-1, 0), 5);
         CHECK.refused(x, "k 13", x.dozes(0, 13), 5);

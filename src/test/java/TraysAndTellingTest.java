@@ -30,10 +30,7 @@ public final class TraysAndTellingTest {
         CHECK.same("status", x.status(), 0);
         CHECK.fraction(x, "new", 0, 1);
         CHECK.fault(x, "new", -1, -1);
-        int[] due = {0, 0, 3, 2, 2, 0, 0, 0, 0, 0, 1};
-        for (int i = 0; i < due.length; i++) {
-            CHECK.call(x, "many " + i, x.many(i), due[i], 0);
-        }
+        CHECK.many(x, 0, 0, 3, 2, 2, 0, 0, 0, 0, 0, 1);
         for (int t = 0; t < 4; t++) {
             CHECK.refused(x, "read " + t, x.read(t, 0), 3);
         }
@@ -131,9 +128,9 @@ public final class TraysAndTellingTest {
         CHECK.same("0 0 2 3", x.read(1, 2) * 10 + x.read(1, 3), 23);
         CHECK.same("those ahead stay", x.read(1, 0) + x.read(1, 1), 0);
         CHECK.call(x, "to itself, upward", x.pour(0, 0, 0, 2, 4), true, 0);
-        CHECK.same("121234", row(x, 0, 6), 121234);
+        CHECK.same("121234", Check.row(x, 0, 6), 121234);
         CHECK.call(x, "to itself, downward", x.pour(0, 1, 0, 0, 5), true, 0);
-        CHECK.same("212344", row(x, 0, 6), 212344);
+        CHECK.same("212344", Check.row(x, 0, 6), 212344);
         CHECK.call(x, "none", x.pour(0, 6, 1, 4, 0), true, 0);
         CHECK.refused(x, "no tray", x.pour(4, 0, 3, 0, -1), 1);
         CHECK.refused(x, "no tray to", x.pour(3, 0, -1, 0, 1), 1);
@@ -146,15 +143,7 @@ public final class TraysAndTellingTest {
         CHECK.refused(x, "too few there", x.pour(0, 5, 1, 0, 2), 4);
         CHECK.refused(x, "too few here", x.pour(0, 0, 1, 3, 2), 4);
         CHECK.refused(x, "beyond all", x.pour(0, Integer.MAX_VALUE, 1, 0, Integer.MAX_VALUE), 4);
-        CHECK.same("nothing changed", row(x, 0, 6), 212344);
-    }
-
-    private static long row(SumsNightwatch x, int tray, int many) {
-        long all = 0;
-        for (int i = 0; i < many; i++) {
-            all = all * 10 + x.read(tray, i);
-        }
-        return all;
+        CHECK.same("nothing changed", Check.row(x, 0, 6), 212344);
     }
 
     private static void feed() {
@@ -185,10 +174,7 @@ public final class TraysAndTellingTest {
         Check.nights(x, "any;");
         Check.feed(x, "account a debit 5;wide 2;");
         CHECK.call(x, "only the first 18 bytes", x.book(18), 1, 0);
-        int[] due = {1, 0, 3, 2, 2, 0, 3, 0, 0, 0, 0};
-        for (int i = 0; i < due.length; i++) {
-            CHECK.same("many " + i, x.many(i), due[i]);
-        }
+        CHECK.many(x, 1, 0, 3, 2, 2, 0, 3, 0, 0, 0, 0);
         CHECK.same("true as told", x.cell(0, 1), 5);
         CHECK.same("watch", x.watch(), 0);
         CHECK.refused(x, "no nights", x.live(0), 8);
@@ -244,10 +230,7 @@ public final class TraysAndTellingTest {
         x.step(4);
         // Tapped for one HOUR more: CELL 5. Drifted: 1 (7 to 1), 4 (9 to 8), 7 (4 to 5).
         x.steal(5);
-        int[] due = {3, 4, 3, 2, 4, 1, 9, 4, 32, 5, 0};
-        for (int i = 0; i < due.length; i++) {
-            CHECK.call(x, "many " + i, x.many(i), due[i], 0);
-        }
+        CHECK.many(x, 3, 4, 3, 2, 4, 1, 9, 4, 32, 5, 0);
         CHECK.refused(x, "many 11", x.many(11), 5);
         CHECK.refused(x, "many -1", x.many(-1), 5);
         SumsNightwatch even = Check.withBook("wide 1;account a debit 3;account b debit 1;account c credit 4;");
@@ -327,12 +310,12 @@ public final class TraysAndTellingTest {
         x.write(0, 9, 5);
         x.scratch(8, 6);
         CHECK.call(x, "copyDigits", x.copyDigits(0), 9, 0);
-        CHECK.same("digits", row(x, 0, 10), 1700952465L);
+        CHECK.same("digits", Check.row(x, 0, 10), 1700952465L);
         x.tray(1, 3, 9);
         CHECK.call(x, "just enough", x.copyDigits(1), 9, 0);
         x.tray(1, 3, 8);
         CHECK.refused(x, "too few", x.copyDigits(1), 4);
-        CHECK.same("nothing written", row(x, 1, 8), 0);
+        CHECK.same("nothing written", Check.row(x, 1, 8), 0);
         CHECK.refused(x, "missing", x.copyDigits(3), 3);
         CHECK.refused(x, "no tray", x.copyDigits(4), 1);
         CHECK.refused(x, "no tray", x.copyDigits(-1), 1);
