@@ -159,7 +159,7 @@ public final class EdgesOfNightsTest {
         good(30, "loop 1;end;".repeat(20) + "any;".repeat(10));
         good(30, "loop 1;loop 1;loop 1;end;end;end;" + "any;".repeat(27));
         // As many ORDERS and ends as 300 bytes can hold.
-        CHECK.lives(good(30, "loop1;end;".repeat(28) + "loop2;loop1;end;end;"), 0, 31, 0, 0, 0, 0, 0);
+        CHECK.lives(good(30, "loop1;end;".repeat(27) + "loop2;loop2;loop1;end;end;end;"), 0, 27 + 7, 0, 0, 0, 0, 0);
         faulty(6, "loop 1;".repeat(3) + "end;".repeat(3) + "any;".repeat(27) + "^any;");
         good(30, "any;".repeat(29) + "loop 1;end;");
         faulty(6, "any;".repeat(30) + "^loop 1;end;");
