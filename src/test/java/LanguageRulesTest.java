@@ -1,6 +1,8 @@
 import com.sun.source.tree.AssertTree;
+import com.sun.source.tree.BinaryTree;
 import com.sun.source.tree.ClassTree;
 import com.sun.source.tree.CompilationUnitTree;
+import com.sun.source.tree.CompoundAssignmentTree;
 import com.sun.source.tree.LambdaExpressionTree;
 import com.sun.source.tree.MemberReferenceTree;
 import com.sun.source.tree.MethodInvocationTree;
@@ -30,6 +32,7 @@ import java.util.Set;
 import java.util.TreeSet;
 import javax.lang.model.element.Element;
 import javax.lang.model.element.ElementKind;
+import javax.lang.model.type.DeclaredType;
 import javax.tools.JavaCompiler;
 import javax.tools.StandardJavaFileManager;
 import javax.tools.ToolProvider;
@@ -49,6 +52,13 @@ public final class LanguageRulesTest {
             "int theft()", "int told()", "int rubbed()", "int rubbedSet()", "int game(int)", "int moveOf(int)",
             "boolean dozes(int,int)", "boolean shame()", "int live(int)", "int lived(int)", "boolean mean(int,int)",
             "int mark()", "int back()"));
+
+    /** What of rule 4's library the class uses; what else the rule has may come to this list. */
+    private static final Set<String> LIBRARY = Set.of("java.lang.String.length", "java.lang.String.charAt",
+            "java.lang.System.arraycopy", "java.lang.Math.max", "java.lang.Math.min", "java.lang.Math.abs",
+            "java.lang.Integer.bitCount", "java.util.Arrays.fill", "java.lang.Object.<init>");
+    private static final Set<String> STATIC_TYPES = Set.of("int", "long", "boolean", "char", "java.lang.String");
+    private static final Set<String> STATIC_ROWS = Set.of("int[]", "long[]", "char[]", "byte[]");
 
     public static void main(String[] args) throws Exception {
         face();
@@ -200,7 +210,40 @@ public final class LanguageRulesTest {
             if (method != null && called != null) {
                 calls.get(method).add(called);
             }
+            if (called != null) {
+                String name = called.getEnclosingElement() + "." + called.getSimpleName();
+                holds("rule 4: " + name + where(tree), name.startsWith("SumsNightwatch.") || LIBRARY.contains(name));
+            }
             return super.visitMethodInvocation(tree, none);
+        }
+
+        @Override
+        public Void visitVariable(VariableTree tree, Void none) {
+            Element variable = trees.getElement(getCurrentPath());
+            if (variable != null && variable.getModifiers().contains(javax.lang.model.element.Modifier.STATIC)) {
+                String type = variable.asType().toString();
+                boolean row = STATIC_ROWS.contains(type) && tree.getInitializer() instanceof NewArrayTree;
+                boolean fixed = variable.getModifiers().contains(javax.lang.model.element.Modifier.FINAL);
+                holds("rule 5: " + variable, fixed && (row || STATIC_TYPES.contains(type)));
+            }
+            return super.visitVariable(tree, none);
+        }
+
+        private void joined(Tree tree) {
+            boolean text = trees.getTypeMirror(getCurrentPath()) instanceof DeclaredType;
+            holds("rule 10: no texts joined" + where(tree), !text);
+        }
+
+        @Override
+        public Void visitBinary(BinaryTree tree, Void none) {
+            joined(tree);
+            return super.visitBinary(tree, none);
+        }
+
+        @Override
+        public Void visitCompoundAssignment(CompoundAssignmentTree tree, Void none) {
+            joined(tree);
+            return super.visitCompoundAssignment(tree, none);
         }
 
         /** Stricter than rule 12: nothing is made but with the object itself. */
